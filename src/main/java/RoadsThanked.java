@@ -97,7 +97,7 @@ public final class RoadsThanked {
         int was = column[number];
         if (was != v) {
             column[number] = v;
-            history.record(number, what, was, v);
+            history.remember(number, what, was, v);
         }
         return was;
     }
@@ -1382,7 +1382,7 @@ public final class RoadsThanked {
             this.net = net;
         }
 
-        void record(int number, int what, int was, int is) {
+        void remember(int number, int what, int was, int is) {
             if (done >= MOST) {
                 forgetOldest();
             }
