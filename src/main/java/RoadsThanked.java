@@ -583,7 +583,8 @@ public final class RoadsThanked {
         }
 
         boolean touch(int road, int other) {
-            return otherEnd(other, from[road]) != NONE || otherEnd(other, to[road]) != NONE;
+            return from[other] == from[road] || from[other] == to[road]
+                || to[other] == from[road] || to[other] == to[road];
         }
 
         /** Works on moods that are handed in, as it is done in thought and in deed. */
@@ -871,7 +872,8 @@ public final class RoadsThanked {
                         if (step >= 0) {
                             push(step);
                         } else {
-                            join(-step);
+                            int second = pop();
+                            push(joined(-step, pop(), second));
                         }
                 }
             }
@@ -884,14 +886,6 @@ public final class RoadsThanked {
                 at++;
             }
             return at;
-        }
-
-        private void join(int sign) {
-            if (top < 2) {
-                return;
-            }
-            top--;
-            stack[top - 1] = joined(sign, stack[top - 1], stack[top]);
         }
 
         private static int joined(int sign, int a, int b) {
@@ -1150,7 +1144,9 @@ public final class RoadsThanked {
             for (int p = many - 1; p >= 0; p--) {
                 int pick = picks[p] + 1;
                 if (pick < net.roadCount) {
-                    Arrays.fill(picks, p, many, pick);
+                    for (int q = p; q < many; q++) {
+                        picks[q] = pick;
+                    }
                     return true;
                 }
             }
@@ -1190,8 +1186,9 @@ public final class RoadsThanked {
         void deedsThatFit(Shelf told) {
             value = 0;
             deed = NO_FIT;
+            int most = turns();
             thought.begin(NONE);
-            for (int turn = 0; turn < turns(); turn++) {
+            for (int turn = 0; turn < most; turn++) {
                 thought.moodsAsNow();
                 perform(turn);
                 if (thought.firstNotSo(told) == NOT) {
@@ -1205,10 +1202,11 @@ public final class RoadsThanked {
 
         int pairsThatFit(Shelf told) {
             int many = 0;
+            int most = turns();
             thought.begin(NONE);
-            for (int first = 1; first < turns(); first++) {
+            for (int first = 1; first < most; first++) {
                 performFirst(first);
-                for (int second = 1; second < turns(); second++) {
+                for (int second = 1; second < most; second++) {
                     performSecond(second);
                     if (thought.firstNotSo(told) == NOT) {
                         many++;
@@ -1235,8 +1233,9 @@ public final class RoadsThanked {
             if (!net.joins(start, end, NONE)) {
                 return;
             }
+            int most = turns();
             thought.begin(NONE);
-            for (int turn = 0; turn < turns(); turn++) {
+            for (int turn = 0; turn < most; turn++) {
                 performFirst(turn);
                 int hours = n == 1 ? thought.wayTakes(start, end) : worstAnswer(start, end);
                 if (hours < value) {
@@ -1248,8 +1247,9 @@ public final class RoadsThanked {
 
         private int worstAnswer(int start, int end) {
             int worst = 0;
+            int most = turns();
             // What is no better than a deed found before is not chosen, however bad it gets.
-            for (int turn = 0; turn < turns() && worst < value; turn++) {
+            for (int turn = 0; turn < most && worst < value; turn++) {
                 performSecond(turn);
                 worst = Math.max(worst, thought.wayTakes(start, end));
             }

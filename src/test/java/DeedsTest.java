@@ -46,6 +46,9 @@ final class DeedsTest {
         x.mend(1, 1, -8);
         due.is("a slight", x.goes(0, 1, 2), 28);
         due.is("held at -9", x.of(1, 1), -9);
+        Due.law(x, "l+k+n");
+        x.night();
+        due.is("by the law", x.goes(0, 1, 0), 20 + 1 + 1);
         for (int who : new int[] {-1, 2, LEAST, MOST}) {
             due.is("traveller", x.goes(who, 0, 0), -1);
         }
@@ -84,11 +87,13 @@ final class DeedsTest {
         x.goes(0, 0, 2);
         x.goes(0, 0, 0);
         x.goes(0, 0, 0);
+        x.goes(0, 0, 0);
+        x.goes(0, 0, 0);
         x.goes(0, 0, 2);
         x.goes(0, 0, 1);
         x.night();
-        due.is("gone", x.led(0), 7);
-        due.is("hours", x.led(1), 10 + 9 + 8 + 10 + 10 + 10 + 12);
+        due.is("gone", x.led(0), 9);
+        due.is("hours", x.led(1), 10 + 9 + 8 + 10 + 10 + 10 + 10 + 10 + 12);
         due.is("thanks", x.led(2), 3);
         due.is("slights", x.led(3), 2);
         due.is("nights", x.led(4), 1);
@@ -258,6 +263,28 @@ final class DeedsTest {
         due.is("count", x.count(3), 40);
         x.mend(0, 1, 2);
         due.is("count", x.count(3), 40);
+        fortyOfAllSorts();
+    }
+
+    /** Changes of many numbers, more than are kept: each one is undone and done again as it was. */
+    private static void fortyOfAllSorts() {
+        RoadsThanked x = Due.net(1, 10, 12, 20, 23, 30);
+        int[][] told = new int[47][];
+        int[] was = new int[47];
+        for (int i = 0; i < 47; i++) {
+            told[i] = new int[] {i % 3, i / 3 % 2, 1 + i / 6};
+            was[i] = x.mend(told[i][0], told[i][1], told[i][2]);
+        }
+        for (int i = 46; i >= 7; i--) {
+            due.is("undo", x.undo(), i - 7);
+            due.is("undone, change " + i, x.of(told[i][0], told[i][1]), was[i]);
+        }
+        due.is("no more", x.undo(), -5);
+        for (int i = 7; i < 47; i++) {
+            due.is("redo", x.redo(), 46 - i);
+            due.is("done again, change " + i, x.of(told[i][0], told[i][1]), told[i][2]);
+        }
+        due.is("no more", x.redo(), -5);
     }
 
     private static void promise30Deeds() {

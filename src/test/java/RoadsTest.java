@@ -107,6 +107,14 @@ final class RoadsTest {
         due.is("till it is full", x.roads(3, 0, 8), 6);
         due.is("full", x.roads(3, 0, 8), 0);
         due.is("count", x.count(0), 12);
+        RoadsThanked y = new RoadsThanked();
+        y.row(0, 0, 60);
+        y.put(0, 57, 4);
+        y.put(0, 59, 5);
+        due.is("the last three of sixty", y.roads(0, 57, 12), 1);
+        for (int i = 58; i < 66; i++) {
+            due.is("at the end of sixty", y.roads(0, i, 12), 0);
+        }
     }
 
     private static void promise4Traveller() {
@@ -246,8 +254,8 @@ final class RoadsTest {
 
     private static void promise8Open() {
         String[] texts = {"((((((1))))))", "(((((((1", "!!!!!!1", "!!!!!!!1", "------1", "-------1", "(!-(!-1))", "(!-(!-(1", "(!-(!-!1", "(!-(!--1",
-            "((((((1)))))+(1))+(((((-2)))))", "((((((1+l-m", "((((((1)+!1", "(((((!1+!1+-1-(1", "1-1-1-1-1-1-1-1", "(((((!1)))))"};
-        int[] faults = {-1, 6, -1, 6, -1, 6, -1, 6, 6, 6, -1, 11, 11, 16, -1, -1};
+            "((((((1)))))+(1))+(((((-2)))))", "((((((1+l-m", "((((((1)+!1", "(((((!1+!1+-1-(1", "1-1-1-1-1-1-1-1", "(((((!1)))))", "1?((((((1))))))", "1?(((((((1", "1;!!!!!!1", "1;1?!!!!!!!1"};
+        int[] faults = {-1, 6, -1, 6, -1, 6, -1, 6, 6, 6, -1, 11, 11, 16, -1, -1, -1, 8, -1, 10};
         for (int i = 0; i < texts.length; i++) {
             RoadsThanked x = new RoadsThanked();
             due.is("law " + texts[i], Due.law(x, texts[i]), faults[i] < 0 ? 1 : -100 - faults[i]);
@@ -279,6 +287,15 @@ final class RoadsTest {
             2, 12, 6, 7, 11, 1, 5, 44, 7, 3, 44};
         for (int i = 0; i < texts.length; i++) {
             worth(x, texts[i], wants[i]);
+        }
+        for (int a = 0; a < 4; a++) {
+            for (int b = 0; b < 4; b++) {
+                worth(x, "5+(" + a + ">" + b + ")", a > b ? 6 : 5);
+                worth(x, "5+(" + a + "<" + b + ")", a < b ? 6 : 5);
+                worth(x, "5+(" + a + "=" + b + ")", a == b ? 6 : 5);
+                worth(x, "5+(" + a + "&" + b + ")", a > 0 && b > 0 ? 6 : 5);
+                worth(x, "5+(" + a + "|" + b + ")", a > 0 || b > 0 ? 6 : 5);
+            }
         }
         // 9999 * 9999 * 9999 wraps; so does the least int by -1.
         worth(x, "5+(9999*9999*9999>0)", 9999 * 9999 * 9999 > 0 ? 6 : 5);

@@ -47,6 +47,10 @@ final class SundaysTest {
         due.is("ploughed up or not", x.judge(0), -2);
         x.mend(1, 1, 2);
         due.is("by moods now", x.judge(0), 1);
+        x.mend(1, 3, 0);
+        Due.law(x, "l+k");
+        Due.row(x, 0, 1, 11, 21);
+        due.is("by neighbours", x.judge(0), -2);
     }
 
     private static void one(String why, RoadsThanked x, int many, int least) {
@@ -89,6 +93,17 @@ final class SundaysTest {
         Due.row(x, 0, 1, 10, 20, 38);
         one("one that is ploughed up", x, 1, 7);
         due.is("in thought", x.of(2, 1), -9);
+        RoadsThanked y = Due.net(1, 10, 12, 20);
+        y.mend(1, 2, 0);
+        Due.law(y, "l+k+10*j");
+        Due.row(y, 0, 1, 11, 31);
+        one("by k and j", y, 1, 1);
+        Due.row(y, 0, 1, 11, 41);
+        due.is("by k and j, by two", y.sunday(0, 2), 1);
+        Due.row(y, 0, 1, 11, 21);
+        one("by k and j: none, or a deed to 1", y, 3, -1);
+        Due.law(y, "l+k-m");
+        one("another law: none", y, 1, -1);
         RoadsThanked none = new RoadsThanked();
         none.row(0, 1, 0);
         one("no roads", none, 1, -1);
@@ -182,6 +197,15 @@ final class SundaysTest {
         RoadsThanked two = Due.net(1, 10, 1, 11);
         turns("thanks to 1: one of them stays at 10", two, 1, 2, 10, 4);
         turns("one", two, 1, 1, 9, 1);
+        // Any deed would shorten it, so that the other one does none.
+        RoadsThanked odd = Due.net(1, 50);
+        Due.law(odd, "l-m*m");
+        turns("none may be the best answer", odd, 1, 2, 49, 1);
+        turns("one", odd, 1, 1, 46, 2);
+        RoadsThanked full = Due.fullNet();
+        turns("twelve", full, 1, 2, 10, 4);
+        full.mend(11, 0, 9);
+        turns("the last of twelve", full, 1, 1, 8, 34);
         RoadsThanked none = new RoadsThanked();
         turns("no roads", none, 1, 2, 999, 99);
         for (int ft : new int[] {0, 77, -1, 8, 80, 100, LEAST, MOST}) {
@@ -233,6 +257,10 @@ final class SundaysTest {
         int road = (z >>> 8) % 2;
         due.is("which road", x.drawn(-1, 10112, road), (road == 0 ? 2 : 0) + 1);
         due.is("the other one", x.drawn(-1, 10112, 1 - road), road == 0 ? 0 : 2);
+        due.is("neighbours, first", Due.law(x, "l+k"), 1);
+        due.is("neighbours", x.drawn(5, 10512, -1), 51 + 21);
+        due.is("the law, first", Due.law(x, "l"), 1);
+        due.is("the law", x.drawn(5, 20512, -1), 140);
         for (int nmm : new int[] {0, 100, 10000, 14100, 14012 + 1, 310100, 10113, 10199, 9999, -10100, -1, LEAST, MOST}) {
             due.is("drawn, nmm " + nmm, x.drawn(1, nmm, -1), VOID);
         }

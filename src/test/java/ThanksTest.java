@@ -46,6 +46,11 @@ final class ThanksTest {
         due.is("k", x.least(4, 1, LEAST), -1);
         due.is("t 0 is fine", x.least(2, 0, -1), -2);
         due.is("no roads", new RoadsThanked().least(1, 999, -1), -2);
+        RoadsThanked full = Due.fullNet();
+        full.mend(11, 0, 9);
+        full.mend(11, 1, 1);
+        due.is("the last of twelve", full.least(1, 7, 0), 11);
+        due.is("too many of twelve", full.least(1, 4, -1), -2);
     }
 
     private static void promise16Order() {
@@ -111,6 +116,11 @@ final class ThanksTest {
         y.mend(2, 2, 0);
         y.mend(0, 2, 1);
         due.is("2 angers none", y.best(0), 2);
+        Due.law(y, "l+10*k");
+        due.is("by k", y.best(1), 11 + 21 + 11);
+        Due.law(y, "l+10-m");
+        due.is("another law, another answer", y.best(1), 32);
+        Due.law(y, "l-m");
         due.is("that", y.best(1), 3);
     }
 
@@ -139,6 +149,13 @@ final class ThanksTest {
         due.is("no roads", x.peace(1), 0);
         due.is("what", x.peace(2), -1);
         due.is("what", x.peace(-1), -1);
+        x.road(1, 5);
+        due.is("one", x.peace(0), 1);
+        due.is("one", x.peace(1), 1);
+        x.road(1, 5);
+        x.mend(0, 2, 1);
+        due.is("one of two", x.peace(0), 1);
+        due.is("one of two", x.peace(1), 1);
         x = Due.fullNet();
         due.is("all", x.peace(0), 12);
         due.is("all", x.peace(1), 4095);

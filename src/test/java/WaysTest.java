@@ -72,6 +72,11 @@ final class WaysTest {
         due.is("the longest", all.way(70, -2), 7);
         due.is("the longest", all.way(70, 6), 0);
         due.is("the longest", all.way(70, 7), -2);
+        RoadsThanked full = Due.fullNet();
+        due.is("of twelve", full.way(1, -1), 10);
+        full.mend(11, 1, 9);
+        full.mend(11, 0, 12);
+        due.is("of twelve, the last", full.way(1, 0), 11);
     }
 
     private static void promise10Ties() {
@@ -111,6 +116,11 @@ final class WaysTest {
         due.is("its hours", x.reach(3, 0, 2), 50);
         due.is("another part", x.reach(6, 999, 0), 96);
         due.is("another part", x.reach(6, 999, 1), 5);
+        due.is("place 0 is the farthest", x.reach(2, 0, 1), 4);
+        x.mend(3, 3, 1);
+        due.is("place 0 is the farthest", x.reach(3, 0, 1), 0);
+        due.is("its hours", x.reach(3, 0, 2), 35);
+        x.mend(3, 3, 0);
         due.is("by itself", x.reach(7, 5, 1), 7);
         due.is("by itself", x.reach(7, 5, 2), 0);
         x.mend(0, 3, 1);
@@ -140,6 +150,14 @@ final class WaysTest {
         due.is("not those beside", x.needed(2), 4);
         due.is("no way now", x.needed(5), 0);
         due.is("another part", x.needed(65), 64);
+        RoadsThanked first = Due.net(1, 5);
+        due.is("road 0", first.needed(10), 1);
+        RoadsThanked full = Due.fullNet();
+        due.is("none of twelve", full.needed(1), 0);
+        for (int r = 0; r < 11; r++) {
+            full.mend(r, 3, 1);
+        }
+        due.is("the last of twelve", full.needed(1), 2048);
         for (int ft : new int[] {0, 77, -1, 8, 80, 100, LEAST, MOST}) {
             due.is("needed(" + ft + ")", x.needed(ft), -1);
         }
@@ -253,6 +271,17 @@ final class WaysTest {
         due.is("the 20th does", x.trip(0, 0, 2), 19);
         x.row(0, 0, 0);
         due.is("no steps", x.trip(0, 4, 1), 4);
+        // Hours go by the mood of the road that it is jealous of, too, and by neighbours.
+        RoadsThanked y = Due.net(1, 50, 12, 60, 12, 70);
+        y.mend(1, 2, 0);
+        Due.law(y, "l-5*j+k");
+        Due.row(y, 0, 0, 2, 3, 3, 5, 0, 1, 3);
+        due.is("by j and k", y.trip(0, 0, 0), 52 + 3 * (60 + 10 + 2));
+        due.is("by j and k", y.trip(0, 0, 2), 4);
+        Due.row(y, 0, 0, 3, 3, 5, 4, 3, 3);
+        due.is("by j and k", y.trip(0, 1, 0), 62 * 6);
+        Due.row(y, 0, 0, 2, 1, 0, 4, 3);
+        due.is("by j and k", y.trip(0, 0, 0), 52 + 52 + 52 + 67 + 67);
     }
 
     private static void promise15Round() {
@@ -275,6 +304,9 @@ final class WaysTest {
         due.is("five, the last", x.round(0, 62, 4), 3);
         due.is("five beside itself", x.round(0, 63, -1), 44);
         due.is("six", x.round(0, 126, -1), -5);
+        due.is("all", x.round(0, 255, -1), -5);
+        due.is("past place 0", x.round(5, 1, -1), 24);
+        due.is("past place 0", x.round(5, 5, 0), 0);
         due.is("six, itself among seven", x.round(1, 127, -1), -5);
         due.is("STATE goes ahead of NOT", x.round(0, 254, 0), -5);
         due.is("it can't be", x.round(0, 64, -1), -2);
