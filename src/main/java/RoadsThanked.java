@@ -177,9 +177,11 @@ public final class RoadsThanked {
             return BAD;
         }
         thought.begin(NONE);
-        int now = thought.wayTakes(ft / 10, ft % 10);
+        thought.measureFrom(ft / 10);
+        int now = thought.distance[ft % 10];
         thought.begin(road);
-        int then = thought.wayTakes(ft / 10, ft % 10);
+        thought.measureFrom(ft / 10);
+        int then = thought.distance[ft % 10];
         if (now >= FAR || then >= FAR) {
             return NOT;
         }
@@ -922,15 +924,18 @@ public final class RoadsThanked {
     /** What would be: moods of its own, beginning as they are now, and hours and ways by them. */
     private static final class Thought {
         private static final int MOST_NIGHTS = 99;
+        private static final int MOODS = 2 * MOST_MOOD + 1;
+        private static final int SLOTS = 16;
 
         private final Net net;
         private final Law text;
         final int[] moods = new int[ROADS];
-        /** Hours last worked out (0: not yet), and by which moods: most deeds touch few roads. */
-        private final int[] lastHours = new int[ROADS];
-        private final int[] lastMoods = new int[ROADS];
-        private final int[] lastOthers = new int[ROADS];
+        /** What has been worked out in this thought, as a search comes to the same moods again and again. */
+        private final int[] known = new int[ROADS * SLOTS];
+        private final int[] knownFor = new int[ROADS * SLOTS];
+        private int thoughts;
         private final int[] neighbours = new int[ROADS];
+        private final int[] hours = new int[ROADS];
         final int[] distance = new int[PLACES];
         private int without;
 
@@ -942,8 +947,8 @@ public final class RoadsThanked {
         /** The road is thought to be ploughed up, too (NONE: no more than are). */
         void begin(int ploughedToo) {
             without = ploughedToo;
+            thoughts++;
             moodsAsNow();
-            Arrays.fill(lastHours, 0);
             Arrays.fill(neighbours, NONE);
         }
 
@@ -959,17 +964,22 @@ public final class RoadsThanked {
             int mood = moods[road];
             int of = net.jealous[road];
             int other = of == NONE ? 0 : moods[of];
-            if (lastHours[road] == 0 || lastMoods[road] != mood || lastOthers[road] != other) {
-                if (neighbours[road] == NONE) {
-                    neighbours[road] = countNeighbours(road);
-                }
-                int nights = Math.min(MOST_NIGHTS, net.led[NIGHTS]);
-                int told = text.work(net.lengths[road], mood, other, nights, road, neighbours[road]);
-                lastHours[road] = Math.max(1, Math.min(LONGEST, told));
-                lastMoods[road] = mood;
-                lastOthers[road] = other;
+            int slot = road * SLOTS + (mood & 3) * 4 + (other & 3);
+            int key = (thoughts * MOODS + mood + MOST_MOOD) * MOODS + other + MOST_MOOD;
+            if (knownFor[slot] != key) {
+                knownFor[slot] = key;
+                known[slot] = workOut(road, mood, other);
             }
-            return lastHours[road];
+            return known[slot];
+        }
+
+        private int workOut(int road, int mood, int other) {
+            if (neighbours[road] == NONE) {
+                neighbours[road] = countNeighbours(road);
+            }
+            int nights = Math.min(MOST_NIGHTS, net.led[NIGHTS]);
+            int told = text.work(net.lengths[road], mood, other, nights, road, neighbours[road]);
+            return Math.max(1, Math.min(LONGEST, told));
         }
 
         private int countNeighbours(int road) {
@@ -990,9 +1000,10 @@ public final class RoadsThanked {
             return sum;
         }
 
+        /** Fewest hours to each place stand in distance then; FAR: there is no way. */
         void measureFrom(int start) {
             for (int r = 0; r < net.roadCount; r++) {
-                takes(r);
+                hours[r] = takes(r);
             }
             Arrays.fill(distance, FAR);
             distance[start] = 0;
@@ -1010,21 +1021,15 @@ public final class RoadsThanked {
                 }
                 int a = net.from[r];
                 int b = net.to[r];
-                if (distance[a] + lastHours[r] < distance[b]) {
-                    distance[b] = distance[a] + lastHours[r];
+                if (distance[a] + hours[r] < distance[b]) {
+                    distance[b] = distance[a] + hours[r];
                     nearer = true;
-                } else if (distance[b] + lastHours[r] < distance[a]) {
-                    distance[a] = distance[b] + lastHours[r];
+                } else if (distance[b] + hours[r] < distance[a]) {
+                    distance[a] = distance[b] + hours[r];
                     nearer = true;
                 }
             }
             return nearer;
-        }
-
-        /** FAR: there is none. */
-        int wayTakes(int start, int end) {
-            measureFrom(start);
-            return distance[end];
         }
 
         int tellWay(int start, int end, int k) {
@@ -1052,7 +1057,7 @@ public final class RoadsThanked {
         private int nextRoad(int at) {
             for (int r = 0; r < net.roadCount; r++) {
                 int next = net.otherEnd(r, at);
-                if (isOpen(r) && next != NONE && distance[next] + lastHours[r] == distance[at]) {
+                if (isOpen(r) && next != NONE && distance[next] + hours[r] == distance[at]) {
                     return r;
                 }
             }
@@ -1129,7 +1134,8 @@ public final class RoadsThanked {
                 for (int p = 0; p < many; p++) {
                     net.say(thought.moods, picks[p], THANKS);
                 }
-                if (thought.wayTakes(start, end) <= t) {
+                thought.measureFrom(start);
+                if (thought.distance[end] <= t) {
                     return true;
                 }
                 if (!nextPicks(many)) {
@@ -1237,7 +1243,7 @@ public final class RoadsThanked {
             thought.begin(NONE);
             for (int turn = 0; turn < most; turn++) {
                 performFirst(turn);
-                int hours = n == 1 ? thought.wayTakes(start, end) : worstAnswer(start, end);
+                int hours = worstAnswer(start, end, n == 1 ? 1 : most);
                 if (hours < value) {
                     value = hours;
                     deed = turn == 0 ? NO_DEED : numberOf(turn);
@@ -1245,13 +1251,14 @@ public final class RoadsThanked {
             }
         }
 
-        private int worstAnswer(int start, int end) {
+        /** With one turn alone, which is none, nothing is answered. */
+        private int worstAnswer(int start, int end, int most) {
             int worst = 0;
-            int most = turns();
             // What is no better than a deed found before is not chosen, however bad it gets.
             for (int turn = 0; turn < most && worst < value; turn++) {
                 performSecond(turn);
-                worst = Math.max(worst, thought.wayTakes(start, end));
+                thought.measureFrom(start);
+                worst = Math.max(worst, thought.distance[end]);
             }
             return worst;
         }
@@ -1600,8 +1607,11 @@ public final class RoadsThanked {
 
         /** 0: it holds a row that has that place. */
         int refusalAt(int i) {
+            if (isEmpty()) {
+                return NOTHING_THERE;
+            }
             if (!isRow()) {
-                return refusalOf(BYTES);
+                return OTHER_KIND;
             }
             return i >= 0 && i < size ? 0 : NO_SUCH_PLACE;
         }
