@@ -267,14 +267,18 @@ final class RoadsTest {
         due.is("hours(1) by " + text, x.hours(1), want);
     }
 
-    private static void promise8Worth() {
+    /** Of road 1, after two nights: m -2, j 5. */
+    private static RoadsThanked six() {
         RoadsThanked x = Due.net(1, 10, 12, 20, 23, 30, 2, 40, 45, 50, 12, 60);
         x.mend(1, 1, -4);
         x.mend(1, 2, 2);
         x.mend(2, 1, 7);
         x.night();
         x.night();
-        // After two nights: m -2, j 5.
+        return x;
+    }
+
+    private static void promise8Worth() {
         String[] texts = {"l", "9+m", "j", "n", "r", "k", "9999", "0", "-5", "99", "100", "2+3*4", "(2+3)*4", "20-5-3", "40/5/2", "40%7%3", "0-7/2+9",
             "0-7%4+9", "5/0", "5+5/0", "7+5%0", "1|0", "0|0", "2&4", "10*(2&0)+5", "3<4", "5+(4<4)", "5+(4>3)", "5+(4=4)", "5+(4=3)", "5+!0", "5+!7",
             "-5+9", "--5", "5--5", "!-!5", "0?5;7", "1?5;7", "0?5;0?6;8", "0?5;0?6", "0?5", "m?3;4", "-1?3;4", "1;2", "1|0&0", "(1|0)&0+3",
@@ -286,10 +290,11 @@ final class RoadsTest {
             1, 1, 1, 6, 6, 12, 42, 26, 25,
             2, 12, 6, 7, 11, 1, 5, 44, 7, 3, 44};
         for (int i = 0; i < texts.length; i++) {
-            worth(x, texts[i], wants[i]);
+            worth(six(), texts[i], wants[i]);
         }
         for (int a = 0; a < 4; a++) {
             for (int b = 0; b < 4; b++) {
+                RoadsThanked x = six();
                 worth(x, "5+(" + a + ">" + b + ")", a > b ? 6 : 5);
                 worth(x, "5+(" + a + "<" + b + ")", a < b ? 6 : 5);
                 worth(x, "5+(" + a + "=" + b + ")", a == b ? 6 : 5);
@@ -297,14 +302,24 @@ final class RoadsTest {
                 worth(x, "5+(" + a + "|" + b + ")", a > 0 || b > 0 ? 6 : 5);
             }
         }
-        // 9999 * 9999 * 9999 wraps; so does the least int by -1.
+        promise8WorthWraps();
+        promise8WorthNames();
+    }
+
+    /** 9999 * 9999 * 9999 wraps; so does the least int by -1. */
+    private static void promise8WorthWraps() {
+        RoadsThanked x = six();
         worth(x, "5+(9999*9999*9999>0)", 9999 * 9999 * 9999 > 0 ? 6 : 5);
         worth(x, "50+9999*9999*9999%40", 50 + 9999 * 9999 * 9999 % 40);
         worth(x, "5+(1024*1024*1024*2<0)", 6);
         worth(x, "5+(1024*1024*1024*2/-1<0)", 6);
         worth(x, "5+(1024*1024*1024*2%-1)", 5);
         worth(x, "5+(-(1024*1024*1024*2)<0)", 6);
-        // k: others that are not ploughed up, once each; j of none is 0.
+    }
+
+    /** k: others that are not ploughed up, once each; j of none is 0. */
+    private static void promise8WorthNames() {
+        RoadsThanked x = six();
         worth(x, "10*k", 40);
         x.mend(5, 3, 1);
         due.is("one less", x.hours(1), 30);
