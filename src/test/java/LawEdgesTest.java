@@ -1,6 +1,6 @@
 /** Sentence by sentence, the edges of promises 7 to 9 and of the law's text: the tape, its grammar, its faults, what it is worth. */
 final class LawEdgesTest {
-    private static final int BAD = Due.BAD, FULL = Due.FULL;
+    private static final int BAD = Due.BAD, NOT = Due.NOT, FULL = Due.FULL;
     private static final int LEAST = Due.LEAST, MOST = Due.MOST;
     /** The least int, and the greatest, as the law can tell them. */
     private static final String LOW = "1024*1024*1024*2", HIGH = "(" + LOW + "-1)";
@@ -43,6 +43,7 @@ final class LawEdgesTest {
         neighboursByEnds();
         hoursOfARoad();
         hoursOfAll();
+        lawInEachCall();
         due.end();
     }
 
@@ -661,5 +662,59 @@ final class LawEdgesTest {
             most.road(1, 99);
         }
         due.is("the most", most.hours(-1), 12 * 99);
+    }
+
+    /** A triangle of roads 0, 1, 2 and road 3, which is ploughed up, from 2 to 3. */
+    private static RoadsThanked triangle() {
+        RoadsThanked x = Due.net(1, 1, 12, 2, 2, 3, 23, 4);
+        x.traveller(0);
+        x.mend(3, 3, 1);
+        x.mend(0, 2, 1);
+        x.mend(1, 1, 3);
+        x.night();
+        Due.law(x, "20*k+10*n+r+2*j");
+        return x;
+    }
+
+    private static void lawInEachCall() {
+        due.sentence("THE LAW gives how many HOURS a ROAD takes: in each call");
+        RoadsThanked x = triangle();
+        int[] hours = {54, 51, 52, 53};
+        for (int r = 0; r < 4; r++) {
+            due.is("hours(" + r + ")", x.hours(r), hours[r]);
+        }
+        due.is("hours(-1)", x.hours(-1), 210);
+        due.is("way(1, -1)", x.way(1, -1), 54);
+        due.is("reach(0, 0, 2)", x.reach(0, 0, 2), 54);
+        due.is("reach(0, 53, 0)", x.reach(0, 53, 0), 5);
+        due.is("longer(1, 0)", x.longer(1, 0), 31 + 32 - 54);
+        Due.row(x, 0, 0, 0, 3, 6);
+        due.is("trip(0, 0, 0)", x.trip(0, 0, 0), 157);
+        due.is("round(0, 6, -1)", x.round(0, 6, -1), 157);
+        due.is("least(1, 54, -1)", x.least(1, 54, -1), 0);
+        due.is("least(1, 53, -1)", x.least(1, 53, -1), NOT);
+        due.is("best(0)", x.best(0), 0);
+        due.is("best(1)", x.best(1), 210);
+        Due.row(x, 1, 1, 54, 51, 52, 53);
+        due.is("judge(1)", x.judge(1), NOT);
+        due.is("sunday(1, 1)", x.sunday(1, 1), -1);
+        due.is("sunday(1, 0), all but those to 1", x.sunday(1, 0), 7);
+        due.is("sunday(1, 2), all but those with one to 1", x.sunday(1, 2), 36);
+        due.is("byTurns(1, 1, 0)", x.byTurns(1, 1, 0), 50);
+        due.is("byTurns(1, 1, 1)", x.byTurns(1, 1, 1), 5);
+        due.is("byTurns(1, 2, 0)", x.byTurns(1, 2, 0), 52);
+        due.is("goes(0, 0, 0)", x.goes(0, 0, 0), 54);
+        x.night();
+        due.is("goes(0, 0, 0), after another night", x.goes(0, 0, 0), 62);
+        due.is("led(1)", x.led(1), 116);
+        x.mend(3, 3, 0);
+        due.is("hours(1), beside three", x.hours(1), 81);
+        int z = 1;
+        int drawn = 0;
+        for (int year = 0; year < 30; year++) {
+            z = z * 1103515245 + 12345;
+            drawn += 60 + 81 + 82 + 63 + ((z >>> 8) % 4 == 1 ? 4 : 2);
+        }
+        due.is("drawn(1, 300112, -1): j is 2 in years of thanks to 1, else 1", x.drawn(1, 300112, -1), drawn);
     }
 }

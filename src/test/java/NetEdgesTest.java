@@ -362,6 +362,7 @@ final class NetEdgesTest {
         x.put(0, 59, 8);
         due.is("the last three of sixty", x.roads(0, 57, 1), 1);
         due.is("its length", x.of(3, 0), 8);
+        due.each("roads(0, #, 12), of sixty", i -> x.roads(0, i, 12), 0, 58, 59, 60, 61);
     }
 
     private static void rowBelow0() {

@@ -17,6 +17,7 @@ final class ThanksEdgesTest {
         leastLikeOnes();
         leastNone();
         leastByOtherWays();
+        leastPloughedUp();
         bestBad();
         bestNoRoads();
         bestLikeOnes();
@@ -27,6 +28,7 @@ final class ThanksEdgesTest {
         peaceNoRoads();
         peaceMost();
         peaceLikeOnes();
+        peacePloughedUp();
         ringBad();
         ringHowMany();
         ringNone();
@@ -203,6 +205,19 @@ final class ThanksEdgesTest {
         due.is("though that is ploughed up", x.least(1, 11, -1), NOT);
     }
 
+    private static void leastPloughedUp() {
+        due.sentence("LEAST: THANKS to any ROAD, PLOUGHED up or not");
+        RoadsThanked x = Due.net(1, 20, 67, 5, 1, 30);
+        due.is("law", Due.law(x, "l-5*j"), 1);
+        x.mend(0, 2, 2);
+        x.mend(2, 3, 1);
+        due.is("once", x.least(1, 15, -1), 1);
+        due.is("once", x.least(1, 15, 0), 2);
+        due.is("three times", x.least(1, 5, -1), 3);
+        due.is("three times", x.least(1, 5, 0), 2);
+        due.is("no four", x.least(1, 4, -1), NOT);
+    }
+
     private static void bestBad() {
         due.sentence("best(): BAD; NOT");
         RoadsThanked none = new RoadsThanked();
@@ -339,6 +354,21 @@ final class ThanksEdgesTest {
         }
         due.is("of each pair the first", pairs.peace(1), 0b010101010101);
         due.is("of each pair one", pairs.peace(0), 6);
+    }
+
+    private static void peacePloughedUp() {
+        due.sentence("PEACE, ANGER, RING: of all ROADS, PLOUGHED up or not");
+        RoadsThanked x = Due.fullNet();
+        for (int r = 0; r < 12; r++) {
+            x.mend(r, 2, (r + 1) % 12);
+            x.mend(r, 3, r % 3 == 0 ? 1 : 0);
+        }
+        due.is("peace(0)", x.peace(0), 6);
+        due.is("peace(1)", x.peace(1), 0b010101010101);
+        due.is("anger(0)", x.anger(0), 2048);
+        due.is("anger(1), of one that is ploughed up", x.anger(1), 1);
+        due.is("ring(5, 0)", x.ring(5, 0), 12);
+        due.is("ring(5, 1)", x.ring(5, 1), 11);
     }
 
     private static void ringBad() {

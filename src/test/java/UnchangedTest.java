@@ -36,6 +36,7 @@ final class UnchangedTest {
         thoughtsOfSundays();
         whatIsAsked();
         sameNumbers();
+        oneObjectAndAnother();
         due.end();
     }
 
@@ -430,5 +431,19 @@ final class UnchangedTest {
             int w = what;
             unchanged(UnchangedTest::much, x -> x.mend(0, w, x.of(0, w)), x -> x.mend(1, w, x.of(1, w)));
         }
+    }
+
+    private static void oneObjectAndAnother() {
+        due.sentence("RoadsThanked(): one object's calls change nothing of another one");
+        RoadsThanked early = new RoadsThanked();
+        List<String> wantMuch = readAll(much());
+        List<String> wantNew = readAll(new RoadsThanked());
+        RoadsThanked x = much();
+        RoadsThanked late = new RoadsThanked();
+        readAll(much());
+        readAll(fullOfRoads());
+        due.is("one with much, beside others", readAll(x).equals(wantMuch) ? 1 : 0, 1);
+        due.is("a new one, made ahead of others", readAll(early).equals(wantNew) ? 1 : 0, 1);
+        due.is("a new one, made behind others", readAll(late).equals(wantNew) ? 1 : 0, 1);
     }
 }
