@@ -37,6 +37,8 @@ final class LawEdgesTest {
         nameLength();
         nameMood();
         nameJealous();
+        moodAndJealous();
+        fromMoodToMood();
         nameNights();
         nameRoad();
         nameNeighbours();
@@ -190,6 +192,14 @@ final class LawEdgesTest {
         faults("(1?2)", 2);
         faults("1?(2?3)", 4);
         reads("1?2;1?2");
+        for (String e : new String[] {"2|3", "2&3", "2<3", "2=3", "2>3", "2+3", "2-3", "2*3", "2/3", "2%3", "!2", "-2", "(2)"}) {
+            reads(e);
+            reads(e + "?" + e);
+            reads(e + "?" + e + ";" + e);
+            reads("(" + e + ")?" + e + ";" + e + "?" + e);
+        }
+        worth("0|1?0|0|1;7", 1);
+        worth("0|0?7;5+(0|1)", 6);
     }
 
     private static void orAndAnd() {
@@ -466,6 +476,11 @@ final class LawEdgesTest {
         worth("0?50", 1);
         worth("0?50;0?60", 1);
         worth("l-l?50", 1);
+        RoadsThanked x = Due.net(1, 10);
+        due.is("a long text", Due.law(x, "0?3;20;30;40;50"), 1);
+        due.is("hours(0)", x.hours(0), 20);
+        due.is("a text of one line", Due.law(x, "0?5"), 1);
+        due.is("none of the other text's lines", x.hours(0), 1);
     }
 
     private static void faultOfTheFirstByte() {
@@ -577,6 +592,41 @@ final class LawEdgesTest {
         due.is("ploughed up or not", x.hours(0), 14);
         x.mend(0, 2, -1);
         due.is("of none again", x.hours(0), 20);
+    }
+
+    private static void moodAndJealous() {
+        due.sentence("m MOOD, j MOOD of the ROAD it is JEALOUS of: all moods, of the first and the last ROAD");
+        for (int road = 0; road < 12; road += 11) {
+            for (int m = -9; m <= 9; m++) {
+                RoadsThanked x = Due.fullNet();
+                Due.law(x, "50+2*m+j");
+                x.mend(road, 1, m);
+                x.mend(road, 2, 5);
+                for (int j = -9; j <= 9; j++) {
+                    x.mend(5, 1, j);
+                    due.is("hours(" + road + "), m " + m + ", j " + j, x.hours(road), 50 + 2 * m + j);
+                    due.is("hours(-1), m " + m + ", j " + j, x.hours(-1), 12 * 50 + 2 * m + j + 2 * j);
+                }
+            }
+        }
+    }
+
+    private static void fromMoodToMood() {
+        due.sentence("by HOURS as they are now: from each MOOD to each other one");
+        for (int first = -9; first <= 9; first++) {
+            RoadsThanked x = Due.fullNet();
+            x.mend(11, 2, 10);
+            Due.law(x, "50+2*m+j");
+            for (int second = -9; second <= 9; second++) {
+                x.mend(11, 1, first);
+                x.mend(10, 1, -second);
+                due.is("hours(11), " + first + " and " + -second, x.hours(11), 50 + 2 * first - second);
+                x.mend(11, 1, second);
+                due.is("hours(11), " + second + " and " + -second, x.hours(11), 50 + second);
+                x.mend(10, 1, first);
+                due.is("hours(11), " + second + " and " + first, x.hours(11), 50 + 2 * second + first);
+            }
+        }
     }
 
     private static void nameNights() {
@@ -709,6 +759,7 @@ final class LawEdgesTest {
         due.is("led(1)", x.led(1), 116);
         x.mend(3, 3, 0);
         due.is("hours(1), beside three", x.hours(1), 81);
+        due.is("goes(0, 2, 0), beside three", x.goes(0, 2, 0), 82);
         int z = 1;
         int drawn = 0;
         for (int year = 0; year < 30; year++) {

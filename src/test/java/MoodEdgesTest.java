@@ -6,6 +6,8 @@ final class MoodEdgesTest {
     private static final int[] JEALOUS = {-1, 0, 0, 1};
     private static final int[] EDGES = {-9, -8, -7, 0, 7, 8, 9};
     private static final Due due = new Due("MoodEdgesTest");
+    /** Whether hours go by the law, which then looks at the mood of the road that one is jealous of, too. */
+    private static boolean byLaw;
 
     /** What a test asks of a net whose roads are in these moods. */
     private interface Asked {
@@ -13,10 +15,17 @@ final class MoodEdgesTest {
     }
 
     public static void main(String[] args) {
+        all();
+        byLaw = true;
+        all();
+        thanksAngerAllAndNoOthers();
+        due.end();
+    }
+
+    private static void all() {
         inDeedThanks();
         inDeedSlight();
         inDeedNothing();
-        thanksAngerAllAndNoOthers();
         inATrip();
         inATripOneBehindTheOther();
         inLeast();
@@ -28,7 +37,6 @@ final class MoodEdgesTest {
         byADay();
         byAFewDays();
         aNight();
-        due.end();
     }
 
     /** The four roads lead from place to place: 0, 1, 2, 3, 4. */
@@ -41,7 +49,15 @@ final class MoodEdgesTest {
         for (int place = 0; place < 4; place++) {
             x.traveller(place);
         }
+        if (byLaw) {
+            Due.law(x, "l-m-2*j");
+        }
         return x;
+    }
+
+    private static int hours(int[] moods, int road) {
+        int other = JEALOUS[road] < 0 || !byLaw ? 0 : moods[JEALOUS[road]];
+        return 50 - moods[road] - 2 * other;
     }
 
     private static void forAllEdges(Asked asked) {
@@ -80,7 +96,7 @@ final class MoodEdgesTest {
         forAllEdges((first, moods) -> {
             for (int r = 0; r < 4; r++) {
                 RoadsThanked x = four(moods);
-                due.is("goes(" + r + ", " + r + ", " + word + ")", x.goes(r, r, word), 50 - moods[r]);
+                due.is("goes(" + r + ", " + r + ", " + word + ")", x.goes(r, r, word), hours(moods, r));
                 int[] then = behind(moods, r, word);
                 for (int q = 0; q < 4; q++) {
                     due.is("of(" + q + ", 1) from " + told(moods) + " behind word " + word + " to " + r, x.of(q, 1), then[q]);
@@ -135,7 +151,7 @@ final class MoodEdgesTest {
                     for (int q = 0; q < 4; q++) {
                         due.is("trip, mood " + q + " from " + told(moods), x.trip(0, r, 10 + q), then[q]);
                     }
-                    due.is("trip, hours from " + told(moods), x.trip(0, r, 0), 50 - moods[r]);
+                    due.is("trip, hours from " + told(moods), x.trip(0, r, 0), hours(moods, r));
                 }
             }
         });
@@ -149,7 +165,7 @@ final class MoodEdgesTest {
             int[] then = moods;
             int hours = 0;
             for (long step : steps) {
-                hours += 50 - then[(int) step / 3];
+                hours += hours(then, (int) step / 3);
                 then = behind(then, (int) step / 3, (int) step % 3);
             }
             due.is("trip, hours from " + told(moods), x.trip(0, 0, 0), hours);
@@ -162,8 +178,8 @@ final class MoodEdgesTest {
     /** Hours of the whole line, from place 0 to place 4. */
     private static int whole(int[] moods) {
         int hours = 0;
-        for (int mood : moods) {
-            hours += 50 - mood;
+        for (int r = 0; r < 4; r++) {
+            hours += hours(moods, r);
         }
         return hours;
     }
@@ -217,7 +233,7 @@ final class MoodEdgesTest {
     }
 
     private static void writeSunday(RoadsThanked x, int[] moods) {
-        Due.row(x, 0, 1, 50 - moods[0], 50 - moods[1], 50 - moods[2], 50 - moods[3]);
+        Due.row(x, 0, 1, hours(moods, 0), hours(moods, 1), hours(moods, 2), hours(moods, 3));
     }
 
     private static void byOne() {

@@ -270,6 +270,12 @@ final class ThanksEdgesTest {
         due.is("0 makes two less and one more", x.best(0), 0);
         due.is("that", x.best(1), 11 + 28 + 38);
         due.is("in thought", x.of(0, 1), 0);
+        RoadsThanked most = new RoadsThanked();
+        for (int r = 0; r < 12; r++) {
+            most.road(1, 99);
+        }
+        due.is("twelve of 99", most.best(0), 0);
+        due.is("twelve of 99", most.best(1), 12 * 99 - 1);
     }
 
     private static void angerBad() {
